@@ -34,8 +34,10 @@ final class ClearTest {
         x.input(0, 77);
         x.run();
         x.clear();
-        Due.thread("after clear", x, 1, 3, 4, 1);
-        Due.regs("after clear", x, 1, 1, 6, 0, 0);
+        for (int t = 0; t < 2; t++) {
+            Due.thread("after clear", x, t, 3, 4, 1);
+            Due.regs("after clear", x, t, t, 6, 0, 0);
+        }
         Due.outputs("after clear", x, 0, 6, 1, 6);
         x.emit(Op.LOAD, 2, 2, 0);
         x.run();

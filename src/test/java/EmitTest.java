@@ -55,8 +55,10 @@ final class EmitTest {
         WarpMachine x = Op.machine(2, Op.SET, 3, 40, 0, Op.BUMP, 0, 3, 0);
         x.run();
         Op.add(x, Op.SET, 3, 41, 0, Op.EXIT, 0, 0, 0);
-        Due.thread("after a later emit", x, 1, 2, 2, 1);
-        Due.regs("after a later emit", x, 1, 0, 0, 0, 40);
+        for (int t = 0; t < 2; t++) {
+            Due.thread("after a later emit", x, t, 2, 2, 1);
+            Due.regs("after a later emit", x, t, 0, 0, 0, 40);
+        }
         Due.outputs("after a later emit", x, 0, 80);
 
         WarpMachine y = new WarpMachine(1);

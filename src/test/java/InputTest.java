@@ -45,6 +45,7 @@ final class InputTest {
         Due.thread("input before the first run", x, 0, 0, 0, 0);
         x.run();
         x.input(0, 5);
+        Due.thread("input after a run", x, 0, 2, 2, 1);
         Due.regs("input after a run", x, 0, 4, 0, 0, 0);
         Due.outputs("input after a run", x, 0, 4);
         x.run();
