@@ -34,4 +34,23 @@ final class Op {
             x.emit(op, a, b, c);
         }
     }
+
+    /**
+     * A machine whose threads carry out so many lines (4 or more, if they don't tire) and then go on with the line
+     * after its last one, with 0 in register 0, 1 in register 1, and 0 in the registers 2 and 3.
+     */
+    static WarpMachine busy(int threads, int lines) {
+        int rounds = (lines - 1) / 3;
+        int before = lines - 1 - 3 * rounds;
+        WarpMachine x = new WarpMachine(threads);
+        fill(x, before, SET, 2, 0, 0);
+        // Two lines, then rounds of three of which the last jumps away on its second.
+        add(x, SET, 1, 1, 0, SET, 0, -rounds, 0, ADD, 0, 0, 1, ZERO, 0, before + 5, 0, GOTO, 0, before + 2, 0);
+        return x;
+    }
+
+    /** How many lines the machine made by busy has: the number of the line that it goes on with. */
+    static int busyEnd(int lines) {
+        return 5 + (lines - 1) % 3;
+    }
 }
